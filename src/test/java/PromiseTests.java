@@ -285,7 +285,7 @@ public final class PromiseTests {
 
     private static void promise9NearestTies() {
         GridIndex g = new GridIndex();
-        // From (10, 10): 5 by the greater difference, though 10 by their sum; then 6, 6 by their sum.
+        // (15, 15) is farther by the sum of the differences, 10 against 6, but nearer by the greater one, 5 against 6.
         g.put(15, 15, 1);
         g.put(10, 4, 2);
         due("nearest by the greater difference", g.nearest(10, 10), 64 * 15 + 15);
